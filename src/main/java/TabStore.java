@@ -543,6 +543,7 @@ public final class TabStore {
     private static final class Row {
         // The places of one number: as many as there are ranks of keys.
         static final long NUMBER_SPAN = (long) Keys.KINDS * Keys.KIND;
+        static final long BEHIND_ALL = (MAX_NUMBER + 1) * NUMBER_SPAN;
 
         final int key;
         final int content;
@@ -802,7 +803,7 @@ public final class TabStore {
         }
 
         private Row nextBackward() {
-            long limit = Long.MAX_VALUE;
+            long limit = Row.BEHIND_ALL;
             if (phase != AHEAD) {
                 limit = skipsDoubles ? Row.startOfNumber(place) : place;
             }

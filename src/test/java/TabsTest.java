@@ -145,6 +145,7 @@ public final class TabsTest {
             open 1 3 = 3
             open 2 4 = 3
             close 0 = 2
+            standing 0 = 3
             state 1 = 2
             upgrade = 1
             abort 1 = 0
@@ -409,6 +410,12 @@ public final class TabsTest {
             commit 0 = 0
             makeIndex 0 0 1 0 = state
             makeIndex 0 0 2 0 = bounds
+            """);
+        SCRIPT.play("promise 9, only in an upgrade", READY, """
+            makeIndex 0 0 0 0 = state   // it is over
+            begin 0 1 1 = 1
+            makeIndex 1 0 0 0 = state
+            cursor 1 0 0 0 = state
             """);
     }
 
